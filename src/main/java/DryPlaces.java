@@ -1640,7 +1640,7 @@ public final class DryPlaces {
         }
 
         static int firstOf(long cells) {
-            return cells == 0 ? NONE : Long.numberOfTrailingZeros(cells);
+            return cells == 0 ? NONE : Long.bitCount((cells & -cells) - 1);
         }
 
         static int wetBeside(long dry, int cell) {
@@ -1667,7 +1667,7 @@ public final class DryPlaces {
             long rest = cells;
             int parts = 0;
             for (int i = 0; i < CELLS && rest != 0; i++) {
-                rest &= ~partOf(rest, Long.lowestOneBit(rest));
+                rest &= ~partOf(rest, rest & -rest);
                 parts++;
             }
             return parts;
