@@ -5,6 +5,7 @@ public final class DaysTest {
         lastDay();
         creeping();
         creepingLooksAtTheBeginning();
+        drawsAtTheEdge();
         visitors();
         fullPurse();
         diary();
@@ -104,6 +105,27 @@ public final class DaysTest {
         Due.is("in no room", x.days(1), 0);
         x.act(2, 0, 1);
         Due.is("in a room", x.days(1), 1);
+    }
+
+    /** A state whose next draw of 1000 is the one wanted. */
+    private static int stateBefore(int draw) {
+        int state = 0;
+        while ((1664525 * state + 1013904223 >>> 8) % 1000 != draw) {
+            state++;
+        }
+        return state;
+    }
+
+    private static void drawsAtTheEdge() {
+        int[][] edges = {{300, 300, 0}, {300, 299, 1}, {1, 0, 1}, {1, 1, 0}, {1000, 999, 1}, {999, 999, 0}};
+        for (int[] edge : edges) {
+            DryPlaces x = shown(0, "#");
+            Due.tell(x, 0, "creeps " + edge[0] + "; comes 0;");
+            x.state(stateBefore(edge[1]));
+            Due.is("creeps " + edge[0] + ", drawn " + edge[1], x.days(1), edge[2]);
+            Due.is("its line", x.look(5), 2 + edge[2]);
+            Due.is("dry", x.shape(0, 0), 1 - edge[2]);
+        }
     }
 
     private static void visitors() {

@@ -43,6 +43,9 @@ public final class GroundTest {
         // a bay that comes outside at the border is no hole
         shape(with("#.###", "#.#.#", "#####"), 12, 24, 1, 1, 1);
         shape(with("#####", "#####", "#####", "#####", "#####"), 25, 20, 1, 0, 3);
+        // so is one at the lower border, at the left, at the right
+        shape(with("", "", "", "", "", "", ".###....", ".#.#...."), 5, 12, 1, 0, 1);
+        shape(with("", "##......", ".#....##", "##....#.", "......##"), 10, 24, 2, 0, 1);
         DryPlaces x = with("#");
         Due.is("shape 5", x.shape(0, 5), NONE);
         Due.is("shape -1", x.shape(0, -1), NONE);
@@ -130,6 +133,13 @@ public final class GroundTest {
         Due.is("nothing dry in both", x.fit(3, 3, 1), 0);
         Due.is("two and two", x.fit(4, 4, 0), 2);
         Due.is("by, the least", x.fit(4, 4, 1), 15 * (-1 + 7) + 7);
+        Due.place(x, 0, "#", "#", "#");
+        Due.is("two columns", x.fit(6, 6, 0), 3);
+        Due.is("to the left", x.fit(6, 6, 1), 15 * 7 + 6);
+        Due.place(x, 0, ".#", "##", ".#");
+        Due.is("to the right", x.fit(6, 7, 0), 3);
+        Due.is("by", x.fit(6, 7, 1), 15 * 7 + 5);
+        Due.is("the other one to the right", x.fit(7, 6, 1), 15 * 7 + 9);
         Due.is("two long rows", x.fit(5, 5, 0), 8);
         Due.is("above", x.fit(5, 5, 1), 15 * 6 + 7);
         Due.is("a row above a full one", x.fit(2, 5, 0), 8);
@@ -138,7 +148,7 @@ public final class GroundTest {
         Due.is("by", x.fit(5, 2, 1), 15 * 8 + 7);
         Due.is("fit 2", x.fit(0, 1, 2), NONE);
         Due.is("fit -1", x.fit(0, 1, -1), NONE);
-        Due.is("no place", x.fit(0, 6, 0), NONE);
+        Due.is("no place", x.fit(0, 8, 0), NONE);
         Due.is("no place", x.fit(-1, 0, 0), NONE);
     }
 
@@ -190,6 +200,7 @@ public final class GroundTest {
         Due.is("like", x.sums(3, 24), 1);
         Due.is("like", x.sums(4, 23), 1);
         Due.is("not like", x.sums(3, 25), 0);
+        Due.is("like the first one", x.sums(3, 20), 0);
         Due.place(x, 0, "..#", "", ".#");
         Due.is("like by columns alone", x.sums(3, 26), 0);
         for (int what : new int[] {-1, 17, 19, 27, 30, Integer.MAX_VALUE, Integer.MIN_VALUE}) {
@@ -210,6 +221,10 @@ public final class GroundTest {
         Due.is("two islands", x.lie(0, 0, 16), 1);
         Due.is("four steps over wet ones", x.lie(0, 32, 36), 0);
         Due.is("back", x.lie(0, 36, 32), 0);
+        Due.is("further to the right", x.lie(0, 3, 5), 0);
+        Due.is("down", x.lie(0, 20, 36), 0);
+        Due.is("down and to the left, four apart", x.lie(0, 28, 17), 0);
+        Due.is("down and to the left, five apart", x.lie(0, 17, 36), 1);
         Due.is("an island of its own", x.lie(0, 32, 34), 1);
         Due.is("cell -1", x.lie(0, -1, 0), NONE);
         Due.is("cell 64", x.lie(0, 0, 64), NONE);

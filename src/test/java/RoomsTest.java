@@ -63,6 +63,14 @@ public final class RoomsTest {
         tour(x, 0, 25, 5);
         tour(x, 3, 29, 2);
         tour(x, 2, 29, 1);
+        // a line with 0 at its end, then with 0 in its middle
+        Due.tell(x, 1, "room 0 room 1 long 5;room 1 room 2 long 5;room 2 room 3 long 5;room 3 room 4 long 5;room 4 room 5 long 5;");
+        tour(x, 5, 25, 0);
+        tour(x, 4, 30, 0);
+        tour(x, 1, 30, 5);
+        Due.tell(x, 1, "room 2 room 1 long 5;room 1 room 0 long 5;room 0 room 3 long 5;room 3 room 4 long 5;room 4 room 5 long 5;");
+        tour(x, 2, 25, 5);
+        tour(x, 5, 25, 2);
         Due.is("tour(6, 0)", x.tour(6, 0), NONE);
         Due.is("tour(-1, 0)", x.tour(-1, 0), NONE);
         Due.is("tour(0, 2)", x.tour(0, 2), NONE);
@@ -122,6 +130,10 @@ public final class RoomsTest {
         x.act(1, 3, 0);
         // 6 and 8: from 6 four leave 2, as the other's remainder is
         game(x, 1, 4);
+        x.act(0, 0, 0);
+        x.act(1, 2, 0);
+        // 4 and 6: all four of the first one
+        game(x, 0, 4);
         Due.is("game(2)", x.game(2), NONE);
         Due.is("game(-1)", x.game(-1), NONE);
     }

@@ -75,6 +75,8 @@ public final class TellTest {
             Due.is("of row", x.of(1, 10 + r), 255 - r * 31);
             Due.is("of the other's row", x.of(0, 10 + r), 0);
         }
+        Due.is("a row of none", x.row(1, 5, 0), true);
+        Due.is("row 5", x.of(1, 15), 0);
         Due.is("row told again", x.row(1, 7, 129), true);
         Due.is("row 7", x.of(1, 17), 129);
         Due.is("row 6", x.of(1, 16), 255 - 6 * 31);

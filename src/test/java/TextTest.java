@@ -183,7 +183,19 @@ public final class TextTest {
         x.place(7);
         Due.faulty(x, 0, "worthy 1;", 1, 0);
         Due.faulty(x, 0, "Worth 1;", 1, 0);
-        Due.faulty(x, 0, "worth dryX;", 1, 6);
+        for (char letter : "azAZmM".toCharArray()) {
+            Due.faulty(x, 0, "worth dry" + letter + ";", 1, 6);
+        }
+        for (char other : "`{@[_".toCharArray()) {
+            Due.faulty(x, 0, "worth dry" + other + ";", 1, 9);
+        }
+        Due.faulty(x, 0, "(".repeat(400), 1, 0);
+        Due.faulty(x, 0, "worth 1" + "+1".repeat(196), 1, 399);
+        Due.is("a full tape", Due.tell(x, 0, "worth 1" + "+1".repeat(196) + ";"), 1);
+        Due.is("its worth", x.of(0, 5), 197);
+        Due.is("a full tape of parts", Due.tell(x, 0, "worth 5" + "/1".repeat(196) + ";"), 1);
+        Due.is("its worth", x.of(0, 5), 5);
+        Due.is("a full tape of blanks", Due.tell(x, 0, " ".repeat(400)), 0);
         Due.faulty(x, 0, "worth 1\t;", 1, 7);
         Due.faulty(x, 0, "worth 1\r\n;", 1, 7);
         Due.faulty(x, 0, "worth 1" + (char) 233 + ";", 1, 7);
@@ -257,6 +269,8 @@ public final class TextTest {
         worth(x, "7*3/2", 10);
         worth(x, "7/2*3", 9);
         worth(x, "100/7/2", 7);
+        worth(x, "9999*9999/9999", 9999);
+        worth(x, "30/1", 30);
         worth(x, "2*3*4*5/4/3", 10);
         // towards 0: the part of -7 by 2 is -3
         worth(x, "0-7", 0);
