@@ -2,15 +2,21 @@
 final class Due {
     private static int asked = 0;
     private static int wrong = 0;
+    private static String sentence = "";
 
     private Due() {
+    }
+
+    /** The document's sentence that the answers below are due by. */
+    static void says(String words) {
+        sentence = words + " | ";
     }
 
     static void is(String call, long got, long want) {
         asked++;
         if (got != want) {
             wrong++;
-            System.out.println(call + " answered " + got + ", due is " + want);
+            System.out.println(sentence + call + " answered " + got + ", due is " + want);
         }
     }
 
@@ -48,6 +54,34 @@ final class Due {
         is("text " + k + " '" + text + "'", tell(x, k, text), DryPlaces.NONE);
         is("fault(0) of '" + text + "'", x.fault(0), fault);
         is("fault(1) of '" + text + "'", x.fault(1), at);
+    }
+
+    /** Asks for text k, which has no fault and so many lines. */
+    static void good(DryPlaces x, int k, String text, int lines) {
+        is("text " + k + " '" + text + "'", tell(x, k, text), lines);
+        is("fault(0) of '" + text + "'", x.fault(0), 0);
+        is("fault(1) of '" + text + "'", x.fault(1), DryPlaces.NONE);
+    }
+
+    /** So many places, all wet, of the years 0, 1, .. */
+    static DryPlaces wetPlaces(int count) {
+        DryPlaces x = new DryPlaces();
+        for (int p = 0; p < count; p++) {
+            x.place(p);
+        }
+        return x;
+    }
+
+    /** A place alone, bought for nothing and hung in room 0, with this law, an empty purse and a book of two lines. */
+    static DryPlaces shown(String law, String... rows) {
+        DryPlaces x = new DryPlaces();
+        place(x, 0, rows);
+        tell(x, 0, "worth 0;");
+        x.act(0, 0, 0);
+        x.act(2, 0, 0);
+        is("law '" + law + "'", tell(x, 0, law) > 0, true);
+        x.purse(0);
+        return x;
     }
 
     /** A further place, its dry cells told by rows of signs: # is dry. */
