@@ -8,6 +8,7 @@ public final class BoundsOfActsTest {
         whatAndWho();
         buying();
         buyingForNothing();
+        vIsNotAsked();
         selling();
         sellingForNothing();
         hanging();
@@ -98,6 +99,17 @@ public final class BoundsOfActsTest {
         Due.is("to buy for nothing", x.act(0, 0, 0), true);
         Due.is("lines", x.look(5), 1);
         line(x, 0, 0, 0, 0, 0);
+    }
+
+    private static void vIsNotAsked() {
+        Due.says("6: What 0 to BUY, 1 to SELL PLACE who (v is not named)");
+        DryPlaces x = priced(3, 50);
+        for (int v : new int[] {-1, 6, 8, 64, LEAST, MOST}) {
+            Due.is("to buy, v " + v, x.act(0, 0, v), true);
+            Due.is("to sell, v " + v, x.act(1, 0, v), true);
+        }
+        Due.is("purse", x.look(1), 50);
+        Due.is("lines", x.look(5), 12);
     }
 
     private static void selling() {
@@ -193,6 +205,9 @@ public final class BoundsOfActsTest {
         Due.is("one that is wet", x.act(4, 0, 0), true);
         Due.is("another place is not hosed", x.of(1, 3), 0);
         Due.is("another place is dry", x.of(1, 10), 255);
+        Due.is("another place", x.act(4, 1, 3), true);
+        Due.is("it is hosed, too", x.of(1, 3), 1);
+        Due.is("the first still is", x.of(0, 3), 1);
     }
 
     private static void wiping() {

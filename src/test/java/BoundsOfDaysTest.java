@@ -13,6 +13,7 @@ public final class BoundsOfDaysTest {
         drawsWrap();
         drawsWithoutSign();
         drawOnlyAboveNothing();
+        everyCellCreeps();
         wetBehindAll();
         fullPurse();
         linesOnlyAboveNothing();
@@ -24,6 +25,7 @@ public final class BoundsOfDaysTest {
         thoughtAtLeast500();
         thoughtOfAllOwned();
         thoughtOfAFullPurse();
+        thoughtByEveryWord();
         thoughtAtTheLastDay();
         Due.close();
     }
@@ -179,6 +181,22 @@ public final class BoundsOfDaysTest {
             creepingAlways += x.days(1);
         }
         Due.is("1000 is above every draw", creepingAlways, 100);
+    }
+
+    private static void everyCellCreeps() {
+        Due.says("Terms 3 (b): its dry CELLS that have a wet one (or outside) BESIDE them, by number");
+        for (int cell = 0; cell < 64; cell++) {
+            DryPlaces x = Due.shown("creeps 1000; comes 0;", "");
+            x.row(0, cell / 8, 1 << cell % 8);
+            Due.is("in thought, cell " + cell, x.goes(1, 2), 0);
+            Due.is("cell " + cell, x.days(1), 1);
+            Due.is("it is wet", x.shape(0, 0), 0);
+        }
+        DryPlaces x = Due.shown("creeps 1000; comes 0;", "########", "########", "########", "########",
+            "########", "########", "########", "########");
+        for (int due : new int[] {28, 20, 12, 4, 0}) {
+            Due.is("from outside", x.days(1), due);
+        }
     }
 
     private static void wetBehindAll() {
@@ -356,6 +374,37 @@ public final class BoundsOfDaysTest {
         Due.is("in two", x.goes(2, 0), 99999);
         Due.is("seen in two", x.goes(2, 1), 2);
         Due.is("purse as it was", x.look(1), 99998);
+    }
+
+    /** What comes in thought, by whatever THE LAW asks for, is what comes when those days go by. */
+    private static void thoughtByEveryWord() {
+        Due.says("Terms 4: GOES for n (1 .. 60) DAYS: PURSE, SEEN, dry CELLS of all OWNED then");
+        for (String word : "dry edges year light room hosed paid day wet".split(" ")) {
+            DryPlaces x = new DryPlaces();
+            Due.place(x, 13, "###", "###");
+            Due.place(x, 14, "##");
+            Due.tell(x, 0, "worth 21 when paid=0; creeps 1000 when day=1 and wet>2; creeps 0; comes " + word + "+1; worth " + word + "*3;");
+            x.purse(60);
+            x.act(0, 0, 0);
+            x.act(2, 0, 3);
+            x.act(3, 3, 5);
+            x.act(4, 0, 1);
+            Due.tell(x, 2, "on 1 buy 1; on 2 hang 1 in 4; on 2 light 4 8; on 3 hose 1 0; on 4 sell 0;");
+            int[][] due = new int[6][3];
+            for (int n = 1; n <= 6; n++) {
+                for (int what = 0; what < 3; what++) {
+                    due[n - 1][what] = x.goes(n, what);
+                }
+            }
+            for (int n = 1; n <= 6; n++) {
+                x.days(1);
+                int dry = x.of(0, 2) * x.shape(0, 0) + x.of(1, 2) * x.shape(1, 0);
+                Due.is("purse by " + word + " in " + n, due[n - 1][0], x.look(1));
+                Due.is("seen by " + word + " in " + n, due[n - 1][1], x.look(2));
+                Due.is("dry by " + word + " in " + n, due[n - 1][2], dry);
+            }
+            Due.is("places were bought, hosed, sold", x.look(3), 2);
+        }
     }
 
     private static void thoughtAtTheLastDay() {

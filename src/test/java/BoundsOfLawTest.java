@@ -203,6 +203,10 @@ public final class BoundsOfLawTest {
         x.row(0, 1, 31);
         Due.is("dry 13: the last that is so", x.of(0, 5), 14);
         Due.is("another word's line", x.of(0, 6), 77);
+        for (int so = 0; so < 2; so++) {
+            x = under("comes 77;".repeat(15) + "worth 99 when year=" + (39 + so) + ";");
+            Due.is("the 16th line's B", x.of(0, 5), so == 1 ? 99 : 5 * 8 + 40);
+        }
     }
 
     private static void known() {

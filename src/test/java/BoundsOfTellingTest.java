@@ -16,6 +16,7 @@ public final class BoundsOfTellingTest {
         refusedFeeding();
         bytes();
         ending();
+        endWithin();
         textNumbers();
         tapeIsEmptyThen();
         textStays();
@@ -221,6 +222,30 @@ public final class BoundsOfTellingTest {
         Due.is("end(400)", x.end(400), true);
         Due.is("end(399)", x.end(399), true);
         Due.is("end(400) again", x.end(400), false);
+    }
+
+    /** Bytes that stood behind the end are no part of a word or a number that stands before it. */
+    private static void endWithin() {
+        Due.says("9: The TAPE has its first n bytes alone");
+        DryPlaces x = Due.wetPlaces(1);
+        Due.write(x, "worth 123456");
+        x.end(10);
+        Due.is("within a number", x.text(0), NONE);
+        Due.is("its place", x.fault(1), 10);
+        Due.write(x, "worth dryer;");
+        x.end(9);
+        Due.is("within a word", x.text(0), NONE);
+        Due.is("its place", x.fault(1), 9);
+        Due.write(x, "worth 1;      ;");
+        x.end(12);
+        Due.is("within blanks", x.text(0), 1);
+        Due.is("a full tape that ends with a digit", Due.tell(x, 0, " ".repeat(390) + "worth 1234"), NONE);
+        Due.is("its place", x.fault(1), 400);
+        Due.is("a full tape that ends with a letter", Due.tell(x, 0, " ".repeat(391) + "worth dry"), NONE);
+        Due.is("its place", x.fault(1), 400);
+        Due.is("a full tape that ends with a blank", Due.tell(x, 0, " ".repeat(390) + "worth dry "), NONE);
+        Due.is("its place", x.fault(1), 400);
+        Due.is("a full tape that ends with a line", Due.tell(x, 0, " ".repeat(390) + "worth dry;"), 1);
     }
 
     private static void textNumbers() {

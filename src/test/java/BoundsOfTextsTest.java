@@ -210,6 +210,12 @@ public final class BoundsOfTextsTest {
                 Due.faulty(x, 2, "on 7 light " + room + " 1;", 2, 11);
             }
         }
+        Due.faulty(x, 2, "on 7 hang 0;", 1, 11);
+        Due.faulty(x, 2, "on 7 hang 0 in;", 1, 14);
+        Due.faulty(x, 2, "on 7 hose 0;", 1, 11);
+        Due.faulty(x, 2, "on 7 light 0;", 1, 12);
+        Due.faulty(x, 2, "on 7 buy;", 1, 8);
+        Due.faulty(x, 2, "on 7 sell;", 1, 9);
         // not as in passages, the same place and room may be told again
         Due.good(x, 2, "on 7 hang 0 in 0; on 7 hang 0 in 0; on 7 light 0 0;", 3);
     }

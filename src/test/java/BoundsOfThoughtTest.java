@@ -20,12 +20,14 @@ public final class BoundsOfThoughtTest {
         fitsByNone();
         walkCells();
         walks();
+        straightWalks();
         sumsOfRowsAndColumns();
         likes();
         switches();
         purses();
         setsBought();
         tours();
+        stars();
         vouches();
         heelCells();
         heelsApart();
@@ -189,6 +191,11 @@ public final class BoundsOfThoughtTest {
         Due.is("pushed as far as can be", x.turned(1, 4), 0);
         Due.is("pushed back", x.turned(4, 1), 0);
         Due.is("changed and pushed", x.turned(0, 4), 4);
+        Due.place(x, 0, "#");
+        Due.place(x, 0, "", "", "", "", "", "", "", ".......#");
+        Due.is("the first cell alone and the last", x.turned(5, 6), 0);
+        Due.is("the last cell alone and the first", x.turned(6, 5), 0);
+        Due.is("one and nothing", x.turned(5, 2), NONE);
         // all eight ways of one that has no likeness in itself, laid in the far corner and at the border
         int[][] cells = {{0, 0}, {0, 1}, {0, 2}, {1, 0}, {2, 0}, {3, 0}, {3, 1}};
         for (int turn = 0; turn < 8; turn++) {
@@ -304,6 +311,18 @@ public final class BoundsOfThoughtTest {
         x = with("#");
         Due.place(x, 0, "", "", "", "", "", "", "", "......#");
         fit(x, 0, 1, 1, 0);
+        // columns at each border: what is pushed over it is gone, and nothing comes in behind it
+        x = with("#", "#", "#");
+        Due.place(x, 0, "", "", "", "", "", ".......#", ".......#", ".......#");
+        Due.place(x, 0, "", "", "", "", "", "#", "#", "#");
+        Due.place(x, 0, ".......#", ".......#", ".......#");
+        for (int p = 0; p < 4; p++) {
+            fit(x, p, p, 3, 15 * 7 + 6);
+        }
+        fit(x, 0, 1, 3, 15 * (-5 + 7) - 6 + 7);
+        fit(x, 1, 0, 3, 15 * (5 + 7) + 6 + 7);
+        fit(x, 2, 3, 3, 15 * (5 + 7) - 6 + 7);
+        fit(x, 3, 2, 3, 15 * (-5 + 7) + 6 + 7);
     }
 
     private static void pushesBeyond() {
@@ -381,6 +400,26 @@ public final class BoundsOfThoughtTest {
         DryPlaces z = with("#######", "#.....#", "##....#", ".##...#", "..##..#", "...##.#", "....###");
         Due.is("steps", z.walk(0, 0, 54, 0), 12);
         Due.is("turnings", z.walk(0, 0, 54, 1), 1);
+    }
+
+    private static void straightWalks() {
+        Due.says("Terms 4: STRAIGHT: the fewest turnings (from one direction into another one) of any walk");
+        DryPlaces x = full();
+        for (int from : new int[] {0, 7, 27, 36, 56, 63}) {
+            for (int to = 0; to < 64; to++) {
+                int due = from / 8 == to / 8 || from % 8 == to % 8 ? 0 : 1;
+                Due.is("from " + from + " to " + to, x.walk(0, from, to, 1), due);
+            }
+        }
+        DryPlaces y = with("###", "#.#", "###");
+        int[] due = {0, 0, 0, 0, NONE, 1, 0, 1, 1};
+        for (int to = 0; to < 9; to++) {
+            Due.is("around a hole to " + to, y.walk(0, 0, to / 3 * 8 + to % 3, 1), due[to]);
+        }
+        Due.is("from side to side", y.walk(0, 1, 17, 1), 2);
+        Due.is("from side to side", y.walk(0, 8, 10, 1), 2);
+        Due.is("from side to side", y.walk(0, 10, 8, 1), 2);
+        Due.is("from side to side", y.walk(0, 17, 1, 1), 2);
     }
 
     private static void sumsOfRowsAndColumns() {
@@ -527,6 +566,28 @@ public final class BoundsOfThoughtTest {
         Due.is("no passages", x.tour(0, 0), NONE);
     }
 
+    /** From the middle of a star the longest ray is walked but once, and last. */
+    private static void stars() {
+        Due.says("Terms 4: TOUR from a ROOM through all six by PASSAGES (any may be passed again), ending anywhere");
+        DryPlaces x = new DryPlaces();
+        for (int middle = 0; middle < 6; middle++) {
+            for (int far = 0; far < 6; far++) {
+                if (far == middle) {
+                    continue;
+                }
+                StringBuilder text = new StringBuilder();
+                for (int room = 0; room < 6; room++) {
+                    if (room != middle) {
+                        text.append("room ").append(middle).append(" room ").append(room).append(" long ").append(room == far ? 9 : 2).append(';');
+                    }
+                }
+                Due.good(x, 1, text.toString(), 5);
+                Due.is("how long", x.tour(middle, 0), 4 * 4 + 9);
+                Due.is("where it ends", x.tour(middle, 1), far);
+            }
+        }
+    }
+
     private static void vouches() {
         Due.says("Terms 4: VOUCHED: a set (itself only by a round)");
         DryPlaces x = Due.wetPlaces(10);
@@ -538,6 +599,8 @@ public final class BoundsOfThoughtTest {
         Due.is("a round of two", x.vouched(9), 513);
         Due.is("a round of two", x.vouched(0), 513);
         Due.is("not another", x.vouched(5), 0);
+        Due.tell(x, 3, "place 0 by 1;place 0 by 9;place 0 by 3;");
+        Due.is("by several", x.vouched(0), 2 + 512 + 8);
         StringBuilder text = new StringBuilder();
         for (int p = 0; p < 10; p++) {
             text.append("place ").append(p).append(" by ").append((p + 1) % 10).append(';');

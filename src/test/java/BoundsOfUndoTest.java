@@ -7,6 +7,7 @@ public final class BoundsOfUndoTest {
         sixAreKept();
         sixDaysAreKept();
         oneKindAfterAnother();
+        lastPlaceAndRoom();
         aDayIsOne();
         undoneOnce();
         stateAndBook();
@@ -101,6 +102,38 @@ public final class BoundsOfUndoTest {
         Due.is("paid", x.of(0, 4), 0);
         Due.is("no line", x.look(5), 0);
         Due.is("no more", x.undo(), false);
+    }
+
+    private static void lastPlaceAndRoom() {
+        Due.says("Terms 4: UNDO, THE IMAGE, GOES (of the tenth PLACE and the sixth ROOM, too)");
+        DryPlaces x = Due.wetPlaces(10);
+        x.row(9, 7, 255);
+        Due.tell(x, 0, "worth 7; creeps 0; comes year+light+paid;");
+        x.purse(50);
+        x.act(0, 9, 0);
+        x.act(2, 9, 5);
+        x.act(3, 5, 8);
+        x.image(true);
+        Due.is("in thought", x.goes(1, 1), 9 + 8 + 7);
+        Due.is("dry in thought", x.goes(1, 2), 8);
+        x.act(4, 9, 7);
+        x.act(1, 9, 0);
+        Due.is("undo", x.undo() && x.undo(), true);
+        lastAsItWas(x);
+        x.act(3, 5, 1);
+        x.act(1, 9, 0);
+        x.row(9, 7, 1);
+        x.image(false);
+        lastAsItWas(x);
+    }
+
+    private static void lastAsItWas(DryPlaces x) {
+        Due.is("row", x.of(9, 17), 255);
+        Due.is("room", x.of(9, 1), 5);
+        Due.is("paid", x.of(9, 4), 7);
+        Due.is("owned", x.of(9, 2), 1);
+        Due.is("hosed", x.of(9, 3), 0);
+        Due.is("light", x.room(5, 0), 8);
     }
 
     private static void aDayIsOne() {
