@@ -15,6 +15,7 @@ public final class BoundsOfLawTest {
         wraps();
         partsTowardsNothing();
         comparisons();
+        joinedComparisons();
         firstLine();
         known();
         lightAndRoom();
@@ -179,6 +180,26 @@ public final class BoundsOfLawTest {
         so(MOST + "<" + LEAST, false);
         so("0-1<0", true);
         so("0-1>0", false);
+    }
+
+    private static void joinedComparisons() {
+        Due.says("Terms 2: B = A {or A}. A = C {and C}. C = .. | not C | ( B )");
+        String[] trues = {"1<2", "2=2", "3>2", "(1<2)", "not 2<1"};
+        String[] falses = {"2<2", "2=3", "2>2", "(3<2)", "not 3>2"};
+        for (int i = 0; i < trues.length; i++) {
+            for (int j = 0; j < trues.length; j++) {
+                for (int bits = 0; bits < 4; bits++) {
+                    boolean a = (bits & 1) != 0;
+                    boolean b = (bits & 2) != 0;
+                    String left = a ? trues[i] : falses[i];
+                    String right = b ? trues[j] : falses[j];
+                    so(left + " and " + right, a && b);
+                    so(left + " or " + right, a || b);
+                    so("not " + left + " and " + right, !a && b);
+                    so("not (" + left + " or " + right + ")", !(a || b));
+                }
+            }
+        }
     }
 
     private static void firstLine() {

@@ -6,6 +6,7 @@ public final class BoundsOfTextsTest {
         sixteenLines();
         digits();
         words();
+        firstWords();
         blanks();
         roomsOfPassages();
         lengths();
@@ -98,6 +99,19 @@ public final class BoundsOfTextsTest {
         }
         Due.good(x, 2, "on0buy0;on1sell1;on2hang1in2;on3light4 5;on4hose1 2;", 5);
         Due.good(x, 3, "place0by1;", 1);
+    }
+
+    private static void firstWords() {
+        Due.says("Terms 2: what a line of each TEXT begins with");
+        DryPlaces x = Due.wetPlaces(2);
+        String[] firsts = {" creeps worth comes ", " room ", " on ", " place "};
+        String all = "creeps worth comes when or and not dry edges year light room hosed paid day wet long on buy sell hang in hose place by";
+        for (int k = 0; k < 4; k++) {
+            for (String word : (all + " wipe 0 ; + - * / ( ) < = >").split(" ")) {
+                boolean isFirst = firsts[k].contains(" " + word + " ");
+                Due.faulty(x, k, word + " 1", 1, isFirst ? word.length() + 2 : 0);
+            }
+        }
     }
 
     private static void blanks() {

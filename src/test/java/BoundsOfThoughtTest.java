@@ -456,6 +456,10 @@ public final class BoundsOfThoughtTest {
         x.row(0, 6, 0);
         x.row(0, 7, 128);
         Due.is("alike", x.sums(0, 29), 1);
+        DryPlaces z = with("#.", ".#");
+        Due.place(z, 0, ".#", "#.");
+        Due.is("with other cells", z.sums(0, 21), 1);
+        Due.is("with other cells", z.sums(1, 20), 1);
         DryPlaces y = Due.wetPlaces(4);
         Due.is("the last of four", y.sums(0, 23), 1);
         Due.is("one beyond", y.sums(0, 24), NONE);
